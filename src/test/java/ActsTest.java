@@ -382,6 +382,12 @@ public final class ActsTest {
         Check.due("the init of its parent's space, though an init itself", x.process(5, 0), 2);
         Check.due("end in the root", x.end(1), 2);
         Check.due("a child in space 1 of one in the root", x.process(2, 0), 0);
+        start("fork 0; fork 1; fork 2; fork 3; fork 0; end 5;");
+        Check.due("not an orphan", x.process(4, 0), 3);
+        x.end(2);
+        Check.due("an orphan", x.process(3, 0), 0);
+        Check.due("its child has it still", x.process(4, 0), 3);
+        start("fork 0; numbers 1; fork 1; fork 2; fork 3; numbers 3; fork 3; enter 1 2 numbers; fork 1; end 3; end 1;");
         Check.due("another one", x.process(4, 0), 2);
     }
 

@@ -145,6 +145,10 @@ public final class FarTest {
         Check.due("0, of one end", x.look(1), 0);
         Check.noSuch("another what 2", () -> x.look(2));
         Check.noSuch("another what -1", () -> x.look(-1));
+        SpaceWarden w = Check.told("fork 0; end 1; ".repeat(18) + "numbers 0; fork 0; fork 1;");
+        w.note(1, 2, false);
+        Check.due("an init, or one in its space", w.fits(), 6);
+        Check.due("the init's number in the root, 20", w.look(0), 20);
         SpaceWarden y = new SpaceWarden();
         Check.due("none, of no end", y.look(0), -1);
         Check.due("0, of no end", y.look(1), 0);
@@ -232,10 +236,11 @@ public final class FarTest {
     }
 
     private static void years() {
-        String text = "fork 0; fork 0; fork 0; user 1; numbers 2; fork 2; map 0 1 0 0 50; fork 1; fork 0; numbers 4; fork 4;";
+        String text = "fork 0; fork 0; fork 0; user 1; numbers 2; fork 2; map 0 1 0 0 50; fork 1; fork 0; numbers 4; fork 4;"
+            + "fork 0; user 8; fork 0; user 9; fork 0; user 10; fork 0; user 11; fork 0; user 12; fork 0; user 13;";
         int most = 0;
-        for (int from = -40; from < 40; from++) {
-            int n = (from + 40) % 61;
+        for (int from = -400; from < 400; from++) {
+            int n = (from + 400) % 61;
             int start = from * 7919 * 65537;
             int[] due = lived(Check.told(text), start, n);
             SpaceWarden x = Check.told(text);
@@ -246,7 +251,7 @@ public final class FarTest {
         }
         Check.yes("some years are full of acts", most > 8);
         SpaceWarden x = Check.told(text);
-        Check.due("no years: processes", x.years(5, 0, 0), 8);
+        Check.due("no years: processes", x.years(5, 0, 0), 14);
         Check.due("no years: acts", x.years(5, 0, 1), 0);
         Check.due("no years: depth", x.years(5, 0, 2), 2);
         Check.noSuch("another what 3", () -> x.years(1, 1, 3));
@@ -299,8 +304,22 @@ public final class FarTest {
         Check.due("the latest text's fault is no part of it", x.fault(), 2);
         Check.due("restored: what is noted", x.fits(), 0);
         x.forget();
+        x.note(0, 1, false);
         x.fork(0);
         Check.yes("restore again", x.restore());
+        Check.due("noted: not 1's end", x.fits(), 0);
+        x.forget();
+        x.fork(0);
+        x.note(0, 3, false);
+        x.image();
+        x.forget();
+        x.note(0, 1, true);
+        Check.yes("restore what is noted", x.restore());
+        Check.due("as it was noted", x.fits(), 4);
+        x.forget();
+        x.undo();
+        x.note(0, 2, true);
+        x.image();
         Check.due("restored again", x.count(0), 3);
         Check.due("noted again", x.count(8), 1);
         x.fork(0);

@@ -135,6 +135,19 @@ public final class QuestionsTest {
         x.end(2);
         Check.due("none is left there", x.listed(1, -1), 0);
         Check.noSuch("listed of none", () -> x.listed(1, 0));
+        x.fork(1);
+        x.fork(1);
+        Check.due("a process's number comes again without the other one's", x.number(3, 1), -1);
+        Check.due("none is there still", x.listed(1, -1), 0);
+        SpaceWarden y = new SpaceWarden();
+        for (int number = 2; number < 20; number++) {
+            y.fork(0);
+            y.end(1);
+        }
+        y.fork(0);
+        Check.due("number 20", y.number(1, 0), 20);
+        Check.due("listed with it", y.listed(0, -1), 2);
+        Check.due("the process of number 20", y.listed(0, 1), 1);
     }
 
     private static void insideAndOutside() {
@@ -181,6 +194,8 @@ public final class QuestionsTest {
         Check.noSuch("range -1", () -> x.range(1, -1, 0));
         Check.noSuch("the root has none", () -> x.range(0, 0, 0));
         Check.noSuch("no such space", () -> x.range(2, 0, 0));
+        Check.noSuch("space 8", () -> x.range(8, 0, 0));
+        Check.noSuch("space -1", () -> x.range(-1, 0, 0));
         Check.noSuch("another what 3", () -> x.range(1, 0, 3));
         Check.noSuch("another what -1", () -> x.range(1, 0, -1));
     }
