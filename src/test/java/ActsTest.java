@@ -195,8 +195,10 @@ public final class ActsTest {
         refuses("inside in common, its last", x.map(0, 1, 6, 30, 5));
         refuses("outside in common, its first", x.map(0, 1, 30, 4, 5));
         refuses("outside in common, its last", x.map(0, 1, 30, 0, 5));
-        Check.due("right ahead of it", x.map(0, 1, 5, 0, 4), 2);
+        Check.due("right ahead of it", x.map(0, 1, 6, 0, 4), 2);
         refuses("round a range", x.map(0, 1, 3, 20, 9));
+        Check.due("right behind it", x.map(0, 1, 11, 5, 4), 3);
+        x.undo();
         Check.due("up to 99", x.map(0, 1, 90, 90, 10), 3);
         refuses("a fourth", x.map(0, 1, 50, 50, 1));
         start("fork 0; user 1;");

@@ -77,6 +77,8 @@ public final class FarTest {
         SpaceWarden z = Check.told("numbers 0; fork 0; mounts 0; fork 1;");
         Check.due("not by those that it doesn't see", z.steps(1, 1), -1);
         Check.due("itself", z.steps(0, 0), 1);
+        SpaceWarden v = Check.told("fork 0; mounts 0;");
+        Check.due("by process 0", v.steps(1, 1), 1);
         SpaceWarden w = Check.told("fork 0; mounts 1; end 1;");
         Check.due("a space that none is in", w.steps(0, 1), -1);
     }
@@ -309,14 +311,16 @@ public final class FarTest {
         Check.yes("restore again", x.restore());
         Check.due("noted: not 1's end", x.fits(), 0);
         x.forget();
+        x.create(0, 0);
         x.fork(0);
-        x.note(0, 3, false);
+        x.note(1, 1, false);
         x.image();
         x.forget();
-        x.note(0, 1, true);
+        x.note(0, 2, true);
         Check.yes("restore what is noted", x.restore());
         Check.due("as it was noted", x.fits(), 4);
         x.forget();
+        x.undo();
         x.undo();
         x.note(0, 2, true);
         x.image();

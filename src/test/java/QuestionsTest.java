@@ -207,6 +207,9 @@ public final class QuestionsTest {
         Check.due("place 1", x.mounted(0, 1), 0);
         Check.due("another one's", x.mounted(1, 0), 2);
         Check.due("a copy", x.mounted(1, 7), 1);
+        Check.due("places with a thing", x.space(2, 0, 4), 2);
+        SpaceWarden y = Check.told("mount 0 0 9; fork 0; mounts 1;");
+        Check.due("a copy of place 0", y.mounted(1, 0), 9);
         Check.noSuch("place 8", () -> x.mounted(0, 8));
         Check.noSuch("place -1", () -> x.mounted(0, -1));
         Check.noSuch("no such space", () -> x.mounted(2, 0));
