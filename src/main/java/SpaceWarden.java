@@ -647,7 +647,7 @@ public final class SpaceWarden {
             return id;
         }
 
-        /** An ID on one side of a space's ranges, told as on the other side; NOBODY stays NOBODY, as no range holds it. */
+        /** An ID on one side of a space's ranges, as the other side tells it. NOBODY stays so: no range holds it. */
         private int through(int space, int id, int[] from, int[] to) {
             if (space < 0 || space >= SPACES) {
                 return NOBODY;

@@ -138,6 +138,8 @@ public final class TextTest {
         Check.fault("fork fork", 1, 5);
         Check.fault("forkfork 0;", 1, 0);
         Check.fault("forkz 0;", 1, 0);
+        Check.fault("work 0;", 1, 0);
+        Check.fault("forl 0;", 1, 0);
         Check.fault("forka 0;", 1, 0);
         Check.fault("mountss 0;", 1, 0);
         Check.fault("use 0;", 1, 0);
