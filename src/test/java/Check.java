@@ -4,16 +4,30 @@ import java.util.NoSuchElementException;
 final class Check {
     private static int wrong = 0;
     private static int asked = 0;
+    private static String inCase = "";
 
     private Check() {
+    }
+
+    /** What is told ahead of each wrong answer from here on. */
+    static void inCase(String name) {
+        inCase = name;
+    }
+
+    static int asked() {
+        return asked;
     }
 
     static void due(String call, long got, long want) {
         asked++;
         if (got != want) {
-            wrong++;
-            System.out.println(call + " answered " + got + ", due is " + want);
+            tellWrong(call + " answered " + got + ", due is " + want);
         }
+    }
+
+    private static void tellWrong(String what) {
+        wrong++;
+        System.out.println(inCase + what);
     }
 
     static void yes(String call, boolean got) {
@@ -38,13 +52,11 @@ final class Check {
             made.run();
         } catch (RuntimeException thrown) {
             if (thrown.getClass() != wanted) {
-                wrong++;
-                System.out.println(call + " throws " + thrown.getClass().getName() + ", due is " + wanted.getName());
+                tellWrong(call + " throws " + thrown.getClass().getName() + ", due is " + wanted.getName());
             }
             return;
         }
-        wrong++;
-        System.out.println(call + " throws nothing, due is " + wanted.getName());
+        tellWrong(call + " throws nothing, due is " + wanted.getName());
     }
 
     static void finish() {

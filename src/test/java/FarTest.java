@@ -206,7 +206,7 @@ public final class FarTest {
     }
 
     /** Years as calls of another object: its processes, acts done, and depth. */
-    private static int[] lived(SpaceWarden y, int from, int n) {
+    static int[] lived(SpaceWarden y, int from, int n) {
         seed = from;
         int done = 0;
         for (int i = 0; i < n; i++) {
