@@ -22,8 +22,11 @@ final class Edges {
         Arrays.sort(methods, Comparator.comparing(Method::getName));
         TreeSet<Integer> promises = new TreeSet<>();
         for (Method method : methods) {
-            if (method.getName().matches("promise\\d\\d_[a-zA-Z]+_\\w+")) {
-                promises.add(Integer.parseInt(method.getName().substring(7, 9)));
+            String name = method.getName();
+            if (name.startsWith("promise")) {
+                boolean isTold = name.matches("promise\\d\\d_[a-zA-Z0-9]+_[a-zA-Z0-9]+");
+                Check.yes(name + " says promise, edge and case", isTold);
+                promises.add(isTold ? Integer.parseInt(name.substring(7, 9)) : 0);
                 make(method);
             }
         }

@@ -186,6 +186,15 @@ public final class EdgesBeyondTest {
         Check.due("steps", Check.told("fork 0; become 1 7; fork 1; user 2; fork 2; mounts 2; user 2;").steps(1, 1), 2);
     }
 
+    static void promise28_two_behindManyInAnotherUserSpace() {
+        // 1 of ID 7 owns user spaces 1, with ten in it, and 2, with mount space 1, in which the last process is.
+        SpaceWarden x = Check.told("fork 0; become 1 7; fork 1; user 2;" + "fork 2;".repeat(9)
+            + "fork 1; user 12; mounts 12;");
+        Check.due("in user space 1", x.space(1, 1, 3), 10);
+        Check.due("steps", x.steps(1, 1), 2);
+        Check.due("roams", x.set(1, 2), 3);
+    }
+
     static void promise28_none_noPowerAndNoneToEnter() {
         Check.due("steps", Check.told("fork 0; mounts 1; become 0 5;").steps(0, 1), Edges.NONE);
     }
@@ -801,6 +810,20 @@ public final class EdgesBeyondTest {
         x.restore();
         Check.due("noted", x.count(8), 1);
         Check.due("fits", x.fits(), 4);
+    }
+
+    static void promise35_noted_itsSpaceAndWhetherItIsThereToo() {
+        SpaceWarden x = Check.told("fork 0; numbers 0; fork 0; fork 0;");
+        x.note(1, 2, false);
+        x.note(0, 3, true);
+        int before = x.fits();
+        Check.due("only 3's end", before, 8);
+        x.image();
+        x.forget();
+        x.note(0, 2, true);
+        x.note(1, 3, false);
+        x.restore();
+        Check.due("fits", x.fits(), before);
     }
 
     static void promise35_acts_areAsTheyWere() {

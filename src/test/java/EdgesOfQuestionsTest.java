@@ -328,6 +328,13 @@ public final class EdgesOfQuestionsTest {
         Check.due("in mount space 0", y.space(2, 0, 3), 1);
     }
 
+    static void promise07_part_ofEachKindByItself() {
+        SpaceWarden x = Check.told("fork 0; fork 0; user 1; mounts 2; fork 2; numbers 0; fork 0; fork 0; fork 0;");
+        Check.due("number space 1", x.space(0, 1, 3), 3);
+        Check.due("user space 1", x.space(1, 1, 3), 1);
+        Check.due("mount space 1", x.space(2, 1, 3), 2);
+    }
+
     static void promise07_full_sixteenInIt() {
         SpaceWarden x = Check.told(SIXTEEN);
         for (int kind = 0; kind < 3; kind++) {

@@ -106,6 +106,16 @@ public final class EdgesOfTextsTest {
         Edges.same("a new object", told, Edges.state(new SpaceWarden()));
     }
 
+    /** An object is used for at most 512 calls: the last of these is answered as the others are. */
+    static void promise01_last_the512thCall() {
+        SpaceWarden x = new SpaceWarden();
+        for (int call = 1; call <= 510; call++) {
+            Check.due("share, call " + call, x.share(0), call % 2);
+        }
+        Check.due("undo, call 511", x.undo(), 39);
+        Check.due("shared, call 512", x.space(2, 0, 5), 1);
+    }
+
     // Promise 2: twenty bytes come behind the tape; none, if it would have more than 900.
 
     private static SpaceWarden full() {
@@ -509,6 +519,8 @@ public final class EdgesOfTextsTest {
     static void promise03_tokens_wordIsTheLongestRow() {
         Check.fault("forkfork 0;", 1, 0);
         Check.fault("forks 0;", 1, 0);
+        Check.fault("forka 0;", 1, 0);
+        Check.fault("forkz 0;", 1, 0);
         Check.fault("mountss 0;", 1, 0);
         Check.fault("fork 0;zend 0;", 1, 7);
     }
@@ -552,6 +564,8 @@ public final class EdgesOfTextsTest {
 
     static void promise03_fault1_wordThatIsNone() {
         Check.fault("spoon 0;", 1, 0);
+        Check.fault("work 0;", 1, 0);
+        Check.fault("forl 0;", 1, 0);
         Check.fault(" \n spaces 0;", 1, 3);
     }
 
