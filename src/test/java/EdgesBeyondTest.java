@@ -437,6 +437,19 @@ public final class EdgesBeyondTest {
         looks(x, 20, 1);
     }
 
+    static void promise31_full_eightSpacesAndSixteenProcesses() {
+        String eight = "fork 0;".repeat(7) + "numbers 1;numbers 2;numbers 3;numbers 4;numbers 5;numbers 6;numbers 7;"
+            + "fork 7;".repeat(8);
+        // By the end of 8, the init of space 7, all eight in it end: 9's number 10 is nobody's by two ends.
+        SpaceWarden x = Check.told(eight);
+        looks(x, 10, 2);
+        x.note(7, 8, false);
+        Check.due("the init or the last", x.fits(), 1 << 8 | 1 << 15);
+        looks(x, 9, 1);
+        x.note(7, 1, true);
+        looks(x, Edges.NONE, 0);
+    }
+
     static void promise31_dead_spaceTellsNothing() {
         looks(Check.told("numbers 0; fork 0; end 1;"), Edges.NONE, 0);
     }

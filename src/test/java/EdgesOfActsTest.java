@@ -97,6 +97,14 @@ public final class EdgesOfActsTest {
         Check.due("behind 20 the first that none has", x.number(3, 0), 4);
     }
 
+    static void promise16_wrap_numberThatAProcessOfTheSameNumberHad() {
+        // The former process 2 had 3; 4 to 20 have been given since, and 2 again.
+        SpaceWarden x = Check.told("fork 0; fork 0; end 2; end 1;" + "fork 0; end 1;".repeat(17) + "fork 0;");
+        Check.due("2 was given", x.number(1, 0), 2);
+        Check.due("fork", x.fork(0), 2);
+        Check.due("3 is nobody's", x.number(2, 0), 3);
+    }
+
     static void promise16_wrap_1IsNotGivenAgain() {
         SpaceWarden x = Check.told("numbers 0; fork 0;" + "fork 0; end 2;".repeat(19));
         x.fork(0);
@@ -403,6 +411,19 @@ public final class EdgesOfActsTest {
 
     static void promise18_full_thirdRange() {
         Edges.does(RANGE + "map 0 1 0 0 1;", x -> x.map(0, 1, 1, 1, 1), 3);
+    }
+
+    static void promise18_full_threeRangesBesideAFullSpace() {
+        // User spaces 1 and 3 have three ranges each; those of 2 between them are its own.
+        SpaceWarden x = Check.told("fork 0; fork 0; fork 0; user 1; user 2; user 3; map 0 1 90 0 1; map 0 1 91 1 1;"
+            + "map 0 1 92 2 1; map 0 3 0 0 1; map 0 3 1 1 1; map 0 3 2 2 1; map 0 2 50 5 1; map 0 2 40 6 1;");
+        Check.due("the third", x.map(0, 2, 30, 7, 1), 3);
+        int[][] due = {{90, 91, 92}, {30, 40, 50}, {0, 1, 2}};
+        for (int space = 1; space <= 3; space++) {
+            for (int i = 0; i < 3; i++) {
+                Check.due("inside of " + space + ", " + i, x.range(space, i, 0), due[space - 1][i]);
+            }
+        }
     }
 
     static void promise18_full_fourthRange() {
