@@ -20,21 +20,14 @@ public final class FaceTest {
 
     public static void main(String[] args) {
         TreeSet<String> found = new TreeSet<>();
-        TreeSet<String> hidden = new TreeSet<>();
         for (Method method : SpaceWarden.class.getDeclaredMethods()) {
             if (!isHidden(method)) {
                 String text = Arrays.toString(method.getParameterTypes()).replace(" ", "");
                 found.add(method.getReturnType() + " " + method.getName() + "(" + text.substring(1, text.length() - 1)
                     + ")");
-            } else {
-                hidden.add(method.getName());
             }
         }
         Check.yes("methods " + found, found.equals(new TreeSet<>(Arrays.asList(METHODS))));
-        for (String method : METHODS) {
-            Check.no("a private method bears a public one's name: " + method,
-                hidden.contains(method.substring(method.indexOf(' ') + 1, method.indexOf('('))));
-        }
         TreeSet<String> constants = new TreeSet<>();
         for (Field field : SpaceWarden.class.getDeclaredFields()) {
             if (!isHidden(field)) {
@@ -50,7 +43,34 @@ public final class FaceTest {
         Check.yes("public, without parameters", constructors.length == 1 && constructors[0].getParameterCount() == 0);
         Check.yes("final", Modifier.isFinal(SpaceWarden.class.getModifiers()));
         Check.due("public classes inside", SpaceWarden.class.getClasses().length, 0);
+        keepsToRules(SpaceWarden.class);
+        for (Class<?> inside : SpaceWarden.class.getDeclaredClasses()) {
+            Check.yes(inside + " is static", Modifier.isStatic(inside.getModifiers()));
+            Check.no(inside + " is protected", Modifier.isProtected(inside.getModifiers()));
+            keepsToRules(inside);
+        }
         Check.finish();
+    }
+
+    /** LANGUAGE.md's rules 1, 5 and 11, as far as a class's members show them. */
+    private static void keepsToRules(Class<?> of) {
+        for (Method method : of.getDeclaredMethods()) {
+            String name = of.getName() + "." + method.getName();
+            Check.yes(name + " has at most seven parameters", method.getParameterCount() <= 7);
+            for (String face : METHODS) {
+                Check.no(name + " is private and bears a public one's name", isHidden(method)
+                    && face.substring(face.indexOf(' ') + 1, face.indexOf('(')).equals(method.getName()));
+            }
+        }
+        int fields = 0;
+        for (Field field : of.getDeclaredFields()) {
+            if (Modifier.isStatic(field.getModifiers())) {
+                Check.yes(of.getName() + "." + field.getName() + " is final", Modifier.isFinal(field.getModifiers()));
+            } else {
+                fields++;
+            }
+        }
+        Check.yes(of.getName() + " has some twenty fields at most", fields <= 20);
     }
 
     private static boolean isHidden(Member member) {
